@@ -29,12 +29,12 @@ public final class TemplateShop {
     private static final int TEMPLATES = DRAFT + SOURCE_TOKENS;
     private static final int TEXT = TEMPLATES + CONCEPTS * TEMPLATE_TOKENS;
 
-    // Both the USEs and the tokens of an expansion that is not LARGE.
+    // The bound of both the USEs and the tokens of an expansion that is not LARGE.
     private static final int MOST = 2000;
     // Frame 0 is the source itself; each USE that is replaced has one more.
     private static final int FRAMES = MOST + 1;
-    // A template's pieces lie one frame deeper than the piece below them and an operand's one
-    // less deep, so there are never more operands than templates among the open pieces.
+    // Opening a template goes one frame in and opening an operand one frame out, so among the
+    // open pieces there are never more operands than templates; one more is the source.
     private static final int PIECES = 2 * MOST + 1;
     // Far above the steps that a walk over at most MOST USEs and MOST tokens can take.
     private static final int MOST_STEPS = 1000000;
@@ -63,6 +63,7 @@ public final class TemplateShop {
     private final int[] plainOrigin = new int[MOST];
     private final int[] plainParent = new int[MOST];
     private final int[] plainSpan = new int[MOST];
+    private final int[] plainHeight = new int[MOST];
     private int plainCount = 0;
     private boolean tooLarge = false;
 
@@ -162,7 +163,7 @@ public final class TemplateShop {
 
     public int depth(int s) {
         int count = expand(s);
-        return count > 0 ? deepest(count) : count;
+        return count > 0 ? plainHeight[0] : count;
     }
 
     public long at(int s, int k) {
@@ -413,32 +414,21 @@ public final class TemplateShop {
         return frame == 0 ? pieceNext[piece] - begin : frameOrigin[frame];
     }
 
-    /** Goes backwards, so that the operands' spans stand when a token needs them. */
+    /** Goes backwards, so that the operands' spans and heights stand when a token needs them. */
     private void linkPlain() {
         for (int k = plainCount - 1; k >= 0; k--) {
             int operands = operandsOf(plainKind[k]);
             int next = k + 1;
+            int highest = 0;
             for (int j = 0; j < operands && next < plainCount; j++) {
                 plainParent[next] = k;
+                highest = plainHeight[next] > highest ? plainHeight[next] : highest;
                 next += plainSpan[next];
             }
             plainSpan[k] = next - k;
+            plainHeight[k] = highest + 1;
         }
         plainParent[0] = -1;
-    }
-
-    /** Goes backwards too: worth, free between runs, holds how deep it is below each token. */
-    private int deepest(int count) {
-        for (int k = 0; k < count; k++) {
-            worth[k] = 1;
-        }
-        for (int k = count - 1; k > 0; k--) {
-            int above = plainParent[k];
-            if (worth[above] < worth[k] + 1) {
-                worth[above] = worth[k] + 1;
-            }
-        }
-        return worth[0];
     }
 
     // ---- run ----

@@ -246,8 +246,12 @@ public final class PromisesTest {
         due("forget", x.forget(), 0);
         due("forget of none", x.forget(), BAD);
         concept(x, 0, 0, NUM, 1);
-        setSource(x, 3, USE, 0);
-        due("forget of one in source 3", x.forget(), BAD);
+        for (int s = 0; s < 4; s++) {
+            setSource(x, s, USE, 0);
+            due("forget of one in source " + s, x.forget(), BAD);
+            due("source made empty", x.source(s), OK);
+        }
+        due("forget", x.forget(), 0);
     }
 
     private static void promise5() {
@@ -278,6 +282,21 @@ public final class PromisesTest {
         sourceRefused(x, ADD, 0, NUM, 1);
         setSource(x, 0, LET, 9, VAR, 0, VAR, 9);
         tokensAre(x, 0, LET, 9, VAR, 0, VAR, 9);
+        longestSource();
+    }
+
+    private static void longestSource() {
+        TemplateShop x = new TemplateShop();
+        for (int s = 3; s >= 0; s--) {
+            repeat(x, 23, SAY, 0);
+            x.token(NUM, s + 1);
+            due("source of 24 tokens", x.source(s), OK);
+        }
+        for (int s = 0; s < 4; s++) {
+            due("size", x.size(s), 24);
+            due("at the first", x.at(s, 0), SAY);
+            due("at the last", x.at(s, 23), 32L * (s + 1));
+        }
     }
 
     private static void sourceRefused(TemplateShop x, int... tokens) {
@@ -400,6 +419,9 @@ public final class PromisesTest {
             due("kinds(0, " + kind + ")", x.kinds(0, kind), BAD);
             due("kinds(4, " + kind + ")", x.kinds(4, kind), BAD);
         }
+        setSource(x, 2, NUM, 5);
+        due("kinds(2, 0)", x.kinds(2, 0), 1);
+        due("kinds(2, 1)", x.kinds(2, 1), 0);
         due("kinds(0, 0)", x.kinds(0, 0), 0);
         due("kinds(4, 0)", x.kinds(4, 0), BAD);
         due("kinds(-1, 0)", x.kinds(-1, 0), BAD);
