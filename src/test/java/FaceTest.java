@@ -62,8 +62,9 @@ public final class FaceTest {
         Constructor<?>[] constructors = TemplateShop.class.getDeclaredConstructors();
         due("the number of constructors", constructors.length, 1);
         due("the constructor's parameters", constructors[0].getParameterCount(), 0);
-        due("public", Modifier.isPublic(constructors[0].getModifiers()), true);
-        due("final", Modifier.isFinal(TemplateShop.class.getModifiers()), true);
+        due("constructor public", Modifier.isPublic(constructors[0].getModifiers()), true);
+        due("class public", Modifier.isPublic(TemplateShop.class.getModifiers()), true);
+        due("class final", Modifier.isFinal(TemplateShop.class.getModifiers()), true);
     }
 
     private static void hiddenMethods() {

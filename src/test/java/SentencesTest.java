@@ -1,10 +1,10 @@
 /**
- * A test of its own for each sentence of the document that names a boundary: the last input
- * that is still taken, the first that is not, and what later calls answer where something
- * stays as it was. Each test begins with the sentence, has a new object, and keeps to the
- * 512 calls that the document allows.
+ * A test of its own for each sentence of the document, from its first line to promise 19. Where
+ * a sentence names a boundary: the last input that is still taken, the first that is not, and
+ * what later calls answer where something stays as it was. Each test begins with the sentence,
+ * has a new object, and keeps to the 512 calls that the document allows.
  */
-public final class BoundariesTest {
+public final class SentencesTest {
     private static final int OK = 0, SHAPE = -1, LARGE = -2, BAD = -3, FULL = -4;
     private static final long NONE = 100000000000L;
     private static final int NUM = 0, VAR = 1, ADD = 2, SUB = 3, MUL = 4, LESS = 5, IF = 6;
@@ -244,6 +244,33 @@ public final class BoundariesTest {
 
     // ---- what it is ----
 
+    private static void whatItIs() {
+        sentence("concepts with templates, in which they use earlier concepts; sources made of "
+            + "them become long programs of plain tokens, which are asked about, traced back "
+            + "and run");
+        concept(0, 1, ADD, 0, HOLE, 0, HOLE, 0);
+        concept(1, 1, USE, 0, USE, 0, USE, 0, HOLE, 0);
+        concept(2, 1, USE + 1, 0, USE + 1, 0, USE + 1, 0, HOLE, 0);
+        sourceOf(0, SAY, 0, USE + 2, 0, VAR, 0);
+        size(0, 1024);
+        uses(0, 1 + (1 + 7) + 8 * (1 + 7) + 64 * (1 + 7));
+        kinds(0, SAY, 1);
+        kinds(0, ADD, 511);
+        kinds(0, VAR, 512);
+        depth(0, 11);
+        at(0, 1, ADD);
+        at(0, 1023, VAR);
+        origin(0, 1021, 1);
+        origin(0, 1022, 2);
+        origin(0, 1023, 2);
+        parent(0, 1, 0);
+        span(0, 1, 1023);
+        run(0, 3, 0, 0, OK);
+        result(3 * 512);
+        says(1);
+        said(0, 3 * 512);
+    }
+
     private static void atMost512Calls() {
         sentence("An object is used for at most 512 calls after it has been made.");
         concept(0, 1, ADD, 0, HOLE, 0, SAY, 0, HOLE, 0);
@@ -286,6 +313,25 @@ public final class BoundariesTest {
         token(MIN, 0, BAD);
         token(MAX, 0, BAD);
         token(5, 0, 5);
+    }
+
+    private static void prefixOrder() {
+        sentence("TOKENS (kind, value) are written in prefix order, each followed by its "
+            + "OPERANDS");
+        int[] tokens = {SUB, 0, MUL, 0, VAR, 0, NUM, 3, IF, 0, LESS, 0, NUM, 1, VAR, 1,
+            SAY, 0, VAR, 2, NUM, 4};
+        sourceOf(0, tokens);
+        tokensAre(0, tokens);
+        int[] parents = {-1, 0, 1, 1, 0, 4, 5, 5, 4, 8, 4};
+        int[] spans = {11, 3, 1, 1, 7, 3, 1, 1, 2, 1, 1};
+        for (int k = 0; k < parents.length; k++) {
+            parent(0, k, parents[k]);
+            span(0, k, spans[k]);
+        }
+        run(0, 10, 2, 7, OK);
+        result(10 * 3 - 7);
+        run(0, 10, 1, 7, OK);
+        result(10 * 3 - 4);
     }
 
     private static void numbersOfNum() {
@@ -527,6 +573,25 @@ public final class BoundariesTest {
 
     // ---- terms: expansion ----
 
+    private static void asLongAsThereIsAUse() {
+        sentence("as long as there is a USE, the first one .. is REPLACED");
+        concept(0, 2, LESS, 0, HOLE, 1, OWN, 0);
+        concept(1, 1, USE, 5, HOLE, 0, USE, 6, VAR, -1, HOLE, 0);
+        concept(2, 0, LET, -2, USE + 1, 7, OWN, 0, USE + 1, 8, VAR, -2);
+        sourceOf(0, USE, 1, USE + 2, 2, USE + 2, 3);
+        uses(0, 1 + (1 + 2 * 3));
+        tokensAre(0, LESS, 0,
+            LET, 103, LESS, 0, LESS, 0, NUM, 3, NUM, 6, NUM, 5,
+            LESS, 0, LESS, 0, VAR, 103, NUM, 6, NUM, 5, NUM, 1);
+        int[] found = {6, 1, 0, 0, 0, 5, 0, 1, 0};
+        for (int kind = 0; kind <= 8; kind++) {
+            kinds(0, kind, found[kind]);
+        }
+        sourceOf(1, SAY, 0, NUM, 16);
+        tokensAre(1, SAY, 0, NUM, 16);
+        uses(1, 0);
+    }
+
     private static void firstUseIsReplaced() {
         sentence("the first one (in prefix order) is REPLACED by the template of its concept");
         concept(0, 0, VAR, -1);
@@ -725,6 +790,45 @@ public final class BoundariesTest {
 
     // ---- terms: runs ----
 
+    private static void runWorksAnExpansionOut() {
+        sentence("A RUN works an expansion out");
+        givesResult(-8, NUM, -8);
+        givesResult(11, ADD, 0, VAR, 0, VAR, 1);
+        givesResult(-2, SUB, 0, VAR, 0, VAR, 2);
+        givesResult(42, MUL, 0, VAR, 1, VAR, 2);
+        givesResult(1, LESS, 0, VAR, 0, VAR, 1);
+        concept(0, 2, SUB, 0, HOLE, 1, HOLE, 0);
+        concept(1, 1, LET, -1, HOLE, 0, MUL, 0, VAR, -1, USE, 0, OWN, 0, VAR, -1);
+        givesResult(2, USE, 0, VAR, 0, VAR, 2);
+        givesResult(5 * (5 - 3), USE + 1, 3, VAR, 0);
+        givesResult(10 * (10 - 4), USE + 1, 4, USE + 1, 3, VAR, 0);
+    }
+
+    private static void letGivesItsVariable() {
+        sentence("LET: the first operand is worked out, then the second one, in which the "
+            + "variable is that; it is worth what the second is.");
+        givesResult(40, LET, 4, NUM, 20, ADD, 0, VAR, 4, VAR, 4);
+        givesResult(9, LET, 4, NUM, 20, NUM, 9);
+        givesResult(12, LET, 4, SAY, 0, NUM, 6, SAY, 0, ADD, 0, VAR, 4, SAY, 0, VAR, 4);
+        says(3);
+        said(0, 6);
+        said(1, 6);
+        said(2, 12);
+        givesResult(9, LET, 4, SAY, 0, NUM, 6, NUM, 9);
+        says(1);
+        said(0, 6);
+        givesResult(25, ADD, 0, LET, 0, NUM, 20, VAR, 0, VAR, 0);
+        givesResult(206, LET, 0, LET, 1, NUM, 200, VAR, 1, ADD, 0, VAR, 0, VAR, 1);
+    }
+
+    private static void letOfAFreshVariable() {
+        sentence("LET: .. in which the variable is that (each REPLACED USE has its own)");
+        concept(0, 1, LET, -1, OWN, 0, ADD, 0, HOLE, 0, VAR, -1);
+        concept(1, 1, LET, 0, OWN, 0, ADD, 0, HOLE, 0, VAR, 0);
+        givesResult(100 + 10 + 5, USE, 100, USE, 10, VAR, 0);
+        givesResult(100 + 10 + 10, USE + 1, 100, USE + 1, 10, VAR, 0);
+    }
+
     private static void nearestLet() {
         sentence("VAR is what the nearest LET around it (as its second operand) .. gave it");
         givesResult(2, LET, 3, NUM, 1, LET, 3, NUM, 2, VAR, 3);
@@ -797,6 +901,27 @@ public final class BoundariesTest {
         says(2);
         said(0, 9);
         said(1, 2);
+    }
+
+    private static void sayIsItsOperand() {
+        sentence("SAY: its operand, which is said.");
+        givesResult(-5, SAY, 0, SUB, 0, NUM, 1, VAR, 1);
+        says(1);
+        said(0, -5);
+        givesResult(0, SAY, 0, NUM, 0);
+        says(1);
+        said(0, 0);
+        givesResult(6, ADD, 0, SAY, 0, ADD, 0, SAY, 0, NUM, 1, SAY, 0, NUM, 2, SAY, 0, NUM, 3);
+        says(4);
+        said(0, 1);
+        said(1, 2);
+        said(2, 3);
+        said(3, 3);
+        concept(0, 1, ADD, 0, HOLE, 0, HOLE, 0);
+        givesResult(14, USE, 0, SAY, 0, VAR, 2);
+        says(2);
+        said(0, 7);
+        said(1, 7);
     }
 
     private static void operandsFromTheFirstOn() {
@@ -899,6 +1024,24 @@ public final class BoundariesTest {
 
     // ---- promise 2 ----
 
+    private static void tokenAppends() {
+        sentence("Promise 2: Appends a token to the draft: how many it has.");
+        token(IF, 0, 1);
+        token(VAR, 0, 2);
+        token(SAY, 0, 3);
+        token(NUM, 7, 4);
+        size(0, 0);
+        forget(BAD);
+        run(0, 1, 2, 3, BAD);
+        token(LET, 3, 5);
+        token(NUM, 8, 6);
+        place(-1);
+        token(VAR, 3, 7);
+        source(0, OK);
+        tokensAre(0, IF, 0, VAR, 0, SAY, 0, NUM, 7, LET, 3, NUM, 8, VAR, 3);
+        token(USE, 0, 1);
+    }
+
     private static void tokenOfNoKind() {
         sentence("Promise 2: BAD if kind is none of these");
         int count = 0;
@@ -981,6 +1124,24 @@ public final class BoundariesTest {
 
     // ---- promise 3 ----
 
+    private static void defineAnswersTheNumber() {
+        sentence("Promise 3: becomes the template of the next concept, with so many HOLES: "
+            + "its number");
+        concept(0, 2, HOLE, 1);
+        concept(1, 0, NUM, 4);
+        draft(ADD, 0);
+        define(1, SHAPE);
+        concept(2, 3, USE, 0, HOLE, 2, USE + 1, 0);
+        concept(3, 1, SAY, 0, HOLE, 0);
+        sourceOf(0, USE + 3, 0, USE, 0, USE + 2, 0, NUM, 1, NUM, 2, NUM, 3, USE + 1, 0);
+        tokensAre(0, SAY, 0, NUM, 4);
+        forget(BAD);
+        sourceOf(0, USE, 0, NUM, 5, NUM, 6);
+        forget(3);
+        concept(3, 0, NUM, 7);
+        concept(4, 0, NUM, 8);
+    }
+
     private static void defineEmptiesTheDraft() {
         sentence("Promise 3: The draft, which is empty then, becomes the template of the "
             + "next concept");
@@ -1050,6 +1211,29 @@ public final class BoundariesTest {
     }
 
     // ---- promise 4 ----
+
+    private static void forgetAnswersTheNumber() {
+        sentence("Promise 4: The latest concept is no more: its number.");
+        concept(0, 0, NUM, 10);
+        concept(1, 1, SAY, 0, HOLE, 0);
+        concept(2, 2, ADD, 0, HOLE, 0, HOLE, 1);
+        sourceOf(0, USE, 0);
+        forget(2);
+        draft(USE + 2, 0, NUM, 1, NUM, 2);
+        source(1, SHAPE);
+        place(0);
+        draft(USE + 2, 0, NUM, 1, NUM, 2);
+        define(0, SHAPE);
+        place(0);
+        sourceOf(1, USE + 1, 0, NUM, 1);
+        tokensAre(1, SAY, 0, NUM, 1);
+        source(1, OK);
+        forget(1);
+        tokensAre(0, NUM, 10);
+        concept(1, 0, NUM, 11);
+        sourceOf(1, USE + 1, 0);
+        tokensAre(1, NUM, 11);
+    }
 
     private static void forgetOfNone() {
         sentence("Promise 4: BAD if there is none");
@@ -1143,6 +1327,19 @@ public final class BoundariesTest {
     }
 
     // ---- promise 5 ----
+
+    private static void sourceTakesThePlaceOfAnother() {
+        sentence("Promise 5: The draft .. becomes source s (in place of what it was).");
+        sourceOf(2, ADD, 0, NUM, 1, SUB, 0, NUM, 2, NUM, 3);
+        sourceOf(1, NUM, 4);
+        sourceOf(2, SAY, 0, VAR, 5);
+        tokensAre(2, SAY, 0, VAR, 5);
+        sourceOf(2, MUL, 0, VAR, 1, ADD, 0, VAR, 2, VAR, 3);
+        tokensAre(2, MUL, 0, VAR, 1, ADD, 0, VAR, 2, VAR, 3);
+        tokensAre(1, NUM, 4);
+        size(0, 0);
+        size(3, 0);
+    }
 
     private static void sourceEmptiesTheDraft() {
         sentence("Promise 5: The draft, which is empty then, becomes source s: OK.");
@@ -1387,6 +1584,59 @@ public final class BoundariesTest {
 
     // ---- promises 7 to 10 ----
 
+    /** A source with USEs in operands: one is dropped, one is copied, one is taken as it is. */
+    private static void askedAbout() {
+        concept(0, 1, ADD, 0, HOLE, 0, HOLE, 0);
+        concept(1, 2, USE, 0, SAY, 0, HOLE, 1);
+        concept(2, 1, LET, -1, HOLE, 0, VAR, -1);
+        sourceOf(1, IF, 0, VAR, 0, USE + 1, 9, USE + 2, 0, NUM, 5, USE + 2, 0, NUM, 6,
+            USE + 2, 0, USE, 0, VAR, 1);
+    }
+
+    private static void sizeOfAnExpansion() {
+        sentence("Promise 7: How many tokens the expansion of a source has");
+        askedAbout();
+        size(1, 16);
+        sourceOf(0, NUM, 1);
+        size(0, 1);
+        sourceOf(0, USE, 0, NUM, 1);
+        size(0, 3);
+        sourceOf(0, USE, 0, USE, 0, USE, 0, NUM, 1);
+        size(0, 15);
+        sourceOf(0, USE + 1, 0, USE, 0, USE, 0, NUM, 1, NUM, 2);
+        size(0, 5);
+        size(1, 16);
+    }
+
+    private static void usesThatAreReplaced() {
+        sentence("Promise 8: How many USEs are REPLACED.");
+        askedAbout();
+        uses(1, 6);
+        sourceOf(0, ADD, 0, NUM, 1, NUM, 2);
+        uses(0, 0);
+        sourceOf(0, USE, 0, NUM, 1);
+        uses(0, 1);
+        sourceOf(0, USE, 0, USE, 0, USE, 0, NUM, 1);
+        uses(0, 7);
+        sourceOf(0, USE + 1, 0, USE, 0, USE, 0, NUM, 1, NUM, 2);
+        uses(0, 2);
+        uses(1, 6);
+    }
+
+    private static void kindsOfAnExpansion() {
+        sentence("Promise 9: How many tokens of a kind 0..8 there are");
+        askedAbout();
+        int[] found = {2, 6, 2, 0, 0, 0, 1, 3, 2};
+        for (int kind = 0; kind <= 8; kind++) {
+            kinds(1, kind, found[kind]);
+        }
+        sourceOf(0, LESS, 0, SUB, 0, NUM, 1, NUM, 2, MUL, 0, NUM, 3, NUM, 4);
+        int[] others = {4, 0, 0, 1, 1, 1, 0, 0, 0};
+        for (int kind = 0; kind <= 8; kind++) {
+            kinds(0, kind, others[kind]);
+        }
+    }
+
     private static void sizeLargeEmptyOutside() {
         sentence("Promise 7: LARGE; 0 if it is empty, BAD if s is outside");
         countedConcepts();
@@ -1483,6 +1733,36 @@ public final class BoundariesTest {
     }
 
     // ---- promises 11 to 14 ----
+
+    private static void atOfAnExpansion() {
+        sentence("Promise 11: Token k of the expansion as 32 times its value .. plus its kind");
+        askedAbout();
+        tokensAre(1, IF, 0, VAR, 0,
+            ADD, 0, SAY, 0, LET, 104, NUM, 6, VAR, 104, SAY, 0, LET, 106, NUM, 6, VAR, 106,
+            LET, 108, ADD, 0, VAR, 1, VAR, 1, VAR, 108);
+    }
+
+    private static void originOfAToken() {
+        sentence("Promise 12: The ORIGIN of token k");
+        askedAbout();
+        int[] origins = {0, 1, 2, 2, 5, 6, 5, 2, 5, 6, 5, 7, 8, 9, 9, 7};
+        for (int k = 0; k < origins.length; k++) {
+            origin(1, k, origins[k]);
+        }
+        sourceOf(0, ADD, 0, NUM, 1, NUM, 2);
+        origin(0, 0, 0);
+        origin(0, 1, 1);
+        origin(0, 2, 2);
+    }
+
+    private static void parentOfAToken() {
+        sentence("Promise 13: The token of which token k is an operand");
+        askedAbout();
+        int[] parents = {-1, 0, 0, 2, 3, 4, 4, 2, 7, 8, 8, 0, 11, 12, 12, 11};
+        for (int k = 0; k < parents.length; k++) {
+            parent(1, k, parents[k]);
+        }
+    }
 
     private static void atValues() {
         sentence("Promise 11: 32 times its value (0 for 2 to 6 and 8) plus its kind");
@@ -1615,6 +1895,31 @@ public final class BoundariesTest {
     }
 
     // ---- promises 15 to 18 ----
+
+    private static void runsASource() {
+        sentence("Promise 15: Runs a source: OK");
+        askedAbout();
+        run(1, 0, 7, 0, OK);
+        result(14);
+        says(0);
+        run(1, 1, 7, 0, OK);
+        result(12);
+        says(2);
+        said(0, 6);
+        said(1, 6);
+        sourceOf(3, SAY, 0, SUB, 0, VAR, 0, ADD, 0, VAR, 1, VAR, 2);
+        run(3, 100, 20, 3, OK);
+        result(77);
+        says(1);
+        size(1, 16);
+        depth(1, 5);
+        result(77);
+        said(0, 77);
+        run(1, 0, MAX, 0, OK);
+        result(-2);
+        says(0);
+        size(3, 6);
+    }
 
     private static void runLarge() {
         sentence("Promise 15: OK; LARGE");
@@ -1918,6 +2223,7 @@ public final class BoundariesTest {
 
     private static void terms() {
         kindsOfTokens();
+        prefixOrder();
         numbersOfNum();
         numbersOfUse();
         operandsOfTokens();
@@ -1937,6 +2243,7 @@ public final class BoundariesTest {
     }
 
     private static void expansions() {
+        asLongAsThereIsAUse();
         firstUseIsReplaced();
         holeIsTheOperand();
         ownIsTheNumber();
@@ -1954,11 +2261,15 @@ public final class BoundariesTest {
     }
 
     private static void runs() {
+        runWorksAnExpansionOut();
         nearestLet();
         letFarAround();
         variablesWithoutLet();
+        letGivesItsVariable();
+        letOfAFreshVariable();
         ifNotZero();
         otherIsNotWorkedOut();
+        sayIsItsOperand();
         operandsFromTheFirstOn();
         wrapAround();
         lessIs1Or0();
@@ -1970,22 +2281,26 @@ public final class BoundariesTest {
         newHasAnEmptyDraft();
         newWasNotRun();
         newIsApartFromOthers();
+        tokenAppends();
         tokenOfNoKind();
         tokenOfAVariableOutside();
         tokenOfAHoleOutside();
         tokenOfAnyOtherValue();
         tokenThatIsBadIsNotAppended();
         tokenFull();
+        defineAnswersTheNumber();
         defineEmptiesTheDraft();
         defineHolesOutside();
         defineFull();
         defineShape();
+        forgetAnswersTheNumber();
         forgetOfNone();
         forgetOfOneInASource();
         forgetOfOneThatVanishes();
         forgetOfOneThatIsNotInASource();
         forgetThatIsBadForgetsNothing();
         forgottenAndDefinedAnew();
+        sourceTakesThePlaceOfAnother();
         sourceEmptiesTheDraft();
         sourceOfAnEmptyDraft();
         sourceOutside();
@@ -2001,16 +2316,22 @@ public final class BoundariesTest {
         placeElse();
         placeAfterBadOrFull();
         placeAfterOtherCalls();
+        sizeOfAnExpansion();
         sizeLargeEmptyOutside();
+        usesThatAreReplaced();
         usesLargeEmptyOutside();
+        kindsOfAnExpansion();
         kindsLargeEmptyOutside();
         kindsOfOtherKinds();
         depthLargeEmptyOutside();
         depthIsTheGreatest();
+        atOfAnExpansion();
         atValues();
         atOfNone();
         atOfLargeOrNotThere();
+        originOfAToken();
         originBad();
+        parentOfAToken();
         parentBad();
         spanBad();
         parentOfToken0();
@@ -2018,6 +2339,7 @@ public final class BoundariesTest {
     }
 
     private static void promises15To19() {
+        runsASource();
         runLarge();
         runBadChangesNothing();
         runBadAfterLarge();
@@ -2038,6 +2360,7 @@ public final class BoundariesTest {
     }
 
     public static void main(String[] args) {
+        whatItIs();
         atMost512Calls();
         terms();
         expansions();
